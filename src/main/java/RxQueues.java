@@ -56,6 +56,8 @@ public final class RxQueues {
     private final int[] refused = new int[6];
     private int latestRefusal;
     private State paper;
+    // filled anew by each question that needs something of every flow
+    private final int[] ofEachFlow = new int[FLOWS];
 
     public RxQueues() {
     }
@@ -396,12 +398,13 @@ public final class RxQueues {
         if (what < 0 || what > 1 || now.flows.number == 0) {
             return NONE;
         }
-        Key onPaper = paperOfNow().key;
+        for (int f = 0; f < now.flows.number; f++) {
+            ofEachFlow[f] = now.foldedFields(f);
+        }
         int best = 0;
         int most = 0;
         for (int b = 0; b < 256; b++) {
-            onPaper.putNineTimes(b);
-            int unlike = unlikeEntries(onPaper);
+            int unlike = unlikeEntries(b);
             if (unlike > most) {
                 most = unlike;
                 best = b;
@@ -423,10 +426,12 @@ public final class RxQueues {
     }
 
     public int alike() {
+        for (int f = 0; f < now.flows.number; f++) {
+            ofEachFlow[f] = now.hashFlow(f);
+        }
         for (int first = 0; first < now.flows.number; first++) {
-            int hash = now.hashFlow(first);
             for (int second = first + 1; second < now.flows.number; second++) {
-                if (now.hashFlow(second) == hash) {
+                if (ofEachFlow[second] == ofEachFlow[first]) {
                     return 100 * first + second;
                 }
             }
@@ -635,12 +640,24 @@ public final class RxQueues {
         return true;
     }
 
-    private int unlikeEntries(Key repeated) {
+    private int unlikeEntries(int b) {
         int seen = 0;
         for (int f = 0; f < now.flows.number; f++) {
-            seen |= 1 << entryOfHash(repeated.hashByRepeatedByte(now.flows.foldedFields(f, repeated.counting)));
+            seen |= 1 << entryByRepeated(b, ofEachFlow[f]);
         }
         return Integer.bitCount(seen);
+    }
+
+    // a window of a key that is one byte nine times ends with that byte turned left by the window's first bit
+    private static int entryByRepeated(int b, int folded) {
+        int twice = (b << 8) | b;
+        int all = 0;
+        for (int j = 0; j < 8; j++) {
+            if (((folded << j) & 128) != 0) {
+                all ^= twice >> (8 - j);
+            }
+        }
+        return entryOfHash(all);
     }
 
     private static long commonDivisor(long upper, long lower) {
@@ -673,10 +690,6 @@ public final class RxQueues {
             }
         }
 
-        void putNineTimes(int b) {
-            put(b * 0x01010101, b * 0x01010101, b);
-        }
-
         void copyFrom(Key from) {
             System.arraycopy(from.windows, 0, windows, 0, WINDOWS);
             counting = from.counting;
@@ -693,14 +706,13 @@ public final class RxQueues {
 
         /** What one field gives to a hash. */
         int part(int field, int v) {
-            return counts(field) ? bitsOfByte(8 * field, v) : 0;
-        }
-
-        private int bitsOfByte(int firstBit, int v) {
+            if (!counts(field)) {
+                return 0;
+            }
             int all = 0;
             for (int j = 0; j < 8; j++) {
                 if (((v << j) & 128) != 0) {
-                    all ^= windows[firstBit + j];
+                    all ^= windows[8 * field + j];
                 }
             }
             return all;
@@ -709,14 +721,6 @@ public final class RxQueues {
         int hashFields(int from, int to, int port, int other, int sort) {
             return part(Flows.FROM, from) ^ part(Flows.TO, to) ^ part(Flows.PORT, port)
                     ^ part(Flows.OTHER, other) ^ part(Flows.SORT, sort);
-        }
-
-        /**
-         * The hash by a key that is one byte nine times: its windows are the same for every eighth bit,
-         * so that the counting fields may be put together by xor ahead of it.
-         */
-        int hashByRepeatedByte(int folded) {
-            return bitsOfByte(0, folded);
         }
 
         /** A hash is linear over bits: it's enough to look at each bit alone. */
@@ -832,16 +836,6 @@ public final class RxQueues {
             put(READER, f, NONE);
             number++;
             return f;
-        }
-
-        int foldedFields(int flow, int counting) {
-            int folded = 0;
-            for (int field = FROM; field <= SORT; field++) {
-                if (((counting >> field) & 1) == 1) {
-                    folded ^= get(field, flow);
-                }
-            }
-            return folded;
         }
 
         void nowWaits(int flow, int queue) {
@@ -1246,6 +1240,20 @@ public final class RxQueues {
         int hashFlow(int f) {
             return key.hashFields(flows.get(Flows.FROM, f), flows.get(Flows.TO, f),
                     flows.get(Flows.PORT, f), flows.get(Flows.OTHER, f), flows.get(Flows.SORT, f));
+        }
+
+        /**
+         * The fields that count, put together by xor: all that a hash asks of them by a key whose windows are the
+         * same for every eighth bit.
+         */
+        int foldedFields(int flow) {
+            int folded = 0;
+            for (int field = Flows.FROM; field <= Flows.SORT; field++) {
+                if (key.counts(field)) {
+                    folded ^= flows.get(field, flow);
+                }
+            }
+            return folded;
         }
 
         int entryOf(int flow) {
