@@ -821,10 +821,8 @@ public final class RxQueues {
         }
 
         int enter(int from, int to, int port, int other, int sort) {
+            // cells of a flow that did not come yet, or whose coming was undone, are all 0
             int f = number;
-            for (int row = 0; row < ROWS; row++) {
-                put(row, f, 0);
-            }
             put(FROM, f, from);
             put(TO, f, to);
             put(PORT, f, port);

@@ -17,6 +17,7 @@ public final class KeyTest {
         aim();
         spread();
         alike();
+        allFlows();
         CHECK.finish();
     }
 
@@ -171,6 +172,7 @@ public final class KeyTest {
 
     private static void finding() {
         RxQueues x = new RxQueues();
+        due("find: no flows", x.find(0, 0, 0, 0, 0), -1);
         x.flow(1, 2, 3, 4, 0);
         x.flow(1, 2, 3, 4, 1);
         due("find: 1", x.find(1, 2, 3, 4, 1), 1);
@@ -242,6 +244,15 @@ public final class KeyTest {
         CHECK.due("isBothWays: only SORT's windows are not 0", x.isBothWays(), true);
         x.key(1, 0, 0);
         CHECK.due("isBothWays: 1, 0, 0", x.isBothWays(), false);
+        x.mask(3);
+        x.key(Integer.MIN_VALUE, 0, 0);
+        CHECK.due("isBothWays: bit 0 is FROM's highest alone", x.isBothWays(), false);
+        x.key(1 << 29, 0, 0);
+        CHECK.due("isBothWays: bit 2", x.isBothWays(), false);
+        x.mask(12);
+        CHECK.due("isBothWays: bit 2 is not PORT's", x.isBothWays(), true);
+        x.key(1 << 15, 0, 0);
+        CHECK.due("isBothWays: bit 16 is PORT's highest alone", x.isBothWays(), false);
         x.mask(0);
         CHECK.due("isBothWays: nothing counts", x.isBothWays(), true);
     }
@@ -270,6 +281,18 @@ public final class KeyTest {
         due("reach: bit 62", x.reach(), 2);
         x.key(-1, -1, 255);
         due("reach: all windows alike", x.reach(), 2);
+        // bit 46 ends the window of TO's lowest bit, and stands in those of PORT's three highest
+        x.key(0, 1 << 17, 0);
+        int[] wanted = {1, 1, 2, 2, 8, 8, 16, 16, 1};
+        for (int m = 0; m < wanted.length; m++) {
+            x.mask(m);
+            due("reach: bit 46, MASK " + m, x.reach(), wanted[m]);
+        }
+        x.key(0, 8, 0);
+        x.mask(16);
+        due("reach: bit 60 is in SORT's upper bits alone", x.reach(), 1);
+        x.mask(8);
+        due("reach: bit 60 is in three of OTHER", x.reach(), 8);
     }
 
     private static void aim() {
@@ -328,5 +351,35 @@ public final class KeyTest {
         due("alike: a lesser one ahead", x.alike(), 104);
         x.mask(30);
         due("alike: all", x.alike(), 1);
+    }
+
+    /** As many flows as there can be, asked for all that looks at every flow. */
+    private static void allFlows() {
+        RxQueues x = new RxQueues();
+        for (int f = 0; f < 24; f++) {
+            x.flow(0, 0, 0, f, 0);
+        }
+        due("all: alike", x.alike(), 1);
+        x.key(0, 0x01010101, 1);
+        due("all: none alike", x.alike(), -1);
+        due("all: spread, most entries", x.spread(1), 16);
+        for (int f = 18; f < 24; f++) {
+            x.steer(f, 3);
+        }
+        x.reads(23, 1);
+        x.terms(6, 1);
+        x.terms(2, 5);
+        due("all: burst", x.burst(4, 20, 10), 20);
+        due("all: would", x.would(6, 3), 1);
+        due("all: tick", x.tick(4), 20);
+        due("all: queue(3, 6)", x.queue(3, 6) >>> 18, 31);
+        due("all: a rule that followed", x.of(23, 13), 1);
+        due("all: retire", x.retire(3), 4);
+        due("all: rules left", x.count(2), 1);
+        due("all: find", x.find(0, 0, 0, 23, 0), 23);
+        due("all: of(24, 0)", x.of(24, 0), -1);
+        due("all: came", x.count(5), 20);
+        x.tick(6);
+        due("all: too old", x.count(2), 0);
     }
 }

@@ -59,7 +59,7 @@ public final class ModelTest {
     // acts and questions of a run stay around the 512 calls that the document promises; the questions about
     // everything at its end go beyond, which the document leaves free, but they change nothing
     private void play() {
-        int first = style == 0 ? 3 : style == 1 ? 12 : 7;
+        int first = style == 0 ? 3 : style == 1 ? 12 : style == 3 ? 40 : 7;
         putKey();
         for (int i = 0; i < first; i++) {
             putFlow();

@@ -197,9 +197,22 @@ public final class PacketTest {
         due("burst: above, of any", y.burst(1, 2, 11), -4);
         due("burst: above, by the second of one", y.burst(0, 3, 6), -4);
         due("burst: -4 changes nothing", y.count(5), 0);
-        due("burst: not above", y.burst(0, 3, 5), 3);
+        due("packet: not above", y.packet(0, 10, false), 0);
+        due("packet: at the bound", y.of(0, 9), 1000000000);
+        due("packet: at the bound, one more", y.packet(0, 1, false), -4);
+        y.undo();
+        due("gap: not above", y.gap(0, 10), 1000000000);
+        y.undo();
+        y.flow(2, 0, 0, 0, 0);
+        due("burst: above, by the last of three", y.burst(1, 3, 11), -4);
+        due("burst: ends ahead of it", y.burst(1, 2, 11), 2);
+        y.undo();
+        due("burst: above, by the fourth", y.burst(0, 4, 6), -4);
+        due("burst: two rounds reach the bound", y.burst(0, 4, 5), 4);
+        due("burst: at the bound", y.burst(0, 1, 1), -4);
         due("gap: at the bound", y.gap(0, 1), -4);
         due("gap: status()", y.status(), -4);
+        due("gap: another flow", y.gap(1, 1), 6);
         due("gap: -1 ahead of -4", y.gap(0, 0), -1);
     }
 
