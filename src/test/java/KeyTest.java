@@ -381,5 +381,16 @@ public final class KeyTest {
         due("all: came", x.count(5), 20);
         x.tick(6);
         due("all: too old", x.count(2), 0);
+        RxQueues y = new RxQueues();
+        for (int f = 0; f < 24; f++) {
+            y.flow(f, 0, 0, 0, 0);
+        }
+        y.steer(0, 1);
+        y.retire(0);
+        due("all: a rule to another queue stays as it is", y.of(0, 14), 0);
+        y.tick(30);
+        y.steer(0, 1);
+        y.tick(30);
+        due("all: a rule that is not old stays as it is", y.of(0, 14), 30);
     }
 }
