@@ -396,9 +396,19 @@ public final class ActsTest {
             refused("of one that comes seven times", x, -4, y -> y.burst(1, 20, 2));
             refused("-1 ahead of it", x, -1, y -> y.burst(1, 1, 1501));
             due("it does not come so far", x.burst(2, 2, 1500), 2);
+            due("once, as the first, to 1,000,000,000", x.burst(1, 3, 10), 3);
+            x.undo();
+            due("once, as the second", x.burst(0, 4, 10), 4);
+            x.undo();
+            due("once, as the last", x.burst(2, 3, 10), 3);
+            x.undo();
             due("twice, to 1,000,000,000", x.burst(1, 4, 5), 4);
             due("NEXT", x.of(1, 9), LAST_PLACE);
             refused("one more", x, -4, y -> y.burst(1, 1, 1));
+            RxQueues z = Made.together(3);
+            Made.gapUntil(z, 0, LAST_PLACE - 10);
+            refused("of FLOW 0, round", z, -4, y -> y.burst(2, 2, 11));
+            due("not of FLOW 0", z.burst(1, 2, 11), 2);
         });
     }
 
@@ -526,9 +536,9 @@ public final class ActsTest {
             case 8: return x.packet(0, 99, true);
             case 9: return x.burst(1, 9, 9);
             case 10: return x.gap(0, 77);
-            case 11: return x.tick(60);
+            case 11: return x.tick(2);
             case 12: return x.poll(0);
-            case 13: return x.reads(1, 2);
+            case 13: return x.reads(1, 3);
             default: return x.retire(0);
         }
     }
@@ -597,6 +607,18 @@ public final class ActsTest {
                 due("-1 told of " + act, x.count(10), 1);
                 due("-2 told of " + act, x.count(11), 1);
             }
+            RxQueues y = Made.together(1);
+            for (int n = 1; n <= 12; n++) {
+                y.packet(0, n, false);
+                y.poll(0);
+            }
+            y.packet(0, 13, false);
+            y.poll(0);
+            due("the first of 13 SEGMENTS is gone", y.segment(11, 2), 2);
+            y.undo();
+            for (int ago = 0; ago < 12; ago++) {
+                due("the last 12 that were GIVEN, ago " + ago, y.segment(ago, 2), 12 - ago);
+            }
         });
         S.test("-4 there is none.", () -> {
             refused("of a new object", new RxQueues(), -4, RxQueues::undo);
@@ -638,6 +660,15 @@ public final class ActsTest {
             due("in place of IMAGE 1", x.image(1), 5);
             x.back(0);
             due("IMAGE 1 then", x.back(1), 5);
+            RxQueues z = Made.together(1);
+            Made.comeAndGo(z, 12);
+            long third = Look.atAll(z);
+            z.image(1);
+            z.packet(0, 40, false);
+            z.poll(0);
+            z.tick(1);
+            z.back(1);
+            due("all of one with 12 SEGMENTS", Look.atAll(z), third);
             due("at TIME 0", new RxQueues().image(0), 0);
         });
         S.test("-1.", () -> {

@@ -84,6 +84,7 @@ final class Made {
         x.steer(1, 0);
         x.table(0, 2);
         x.burst(0, 20, 50);
+        x.reads(1, 2);
         x.gap(2, 8);
         x.table(0, 1);
         x.packet(2, 70, true);

@@ -1,3 +1,4 @@
+import java.util.Random;
 import java.util.Set;
 import java.util.TreeSet;
 
@@ -672,17 +673,24 @@ public final class QuestionsTest {
             due("KEY 0", x.reach(), 1);
             for (int bit = 0; bit < 72; bit++) {
                 oneBit(x, bit);
-                int want = 1;
-                for (int i = Math.max(0, bit - 31); i <= bit - 28; i++) {
-                    want *= i < 32 || i == 39 ? 2 : 1;
+                for (int v = 0; v < 32; v++) {
+                    x.mask(v);
+                    int want = 1;
+                    for (int i = Math.max(0, bit - 31); i <= bit - 28; i++) {
+                        want *= (i < 32 || i == 39) && (v & 1 << i / 8) != 0 ? 2 : 1;
+                    }
+                    due("bit " + bit + " alone, MASK " + v, x.reach(), want);
                 }
-                due("bit " + bit + " alone", x.reach(), want);
-                x.mask(0);
-                due("bit " + bit + " alone, MASK 0", x.reach(), 1);
-                x.mask(31);
             }
+            x.mask(31);
             x.key(-1, -1, 255);
             due("all bits", x.reach(), 2);
+            Random random = new Random(32);
+            for (int i = 0; i < 300; i++) {
+                x.key(0, random.nextInt() & random.nextInt() & random.nextInt(), random.nextInt(256) & random.nextInt());
+                x.mask(random.nextInt(32));
+                due("KEY " + x.window(32) + ", MASK " + x.count(3), x.reach(), entriesByTrying(x));
+            }
         });
         S.promise(33);
         S.test("The least PORT 0 .. 255 by which FIELDS of a FLOW, all others as they are, would hit an ENTRY.", () -> {
@@ -721,6 +729,24 @@ public final class QuestionsTest {
             due("PORT does not count", y.aim(0, 15), -1);
             due("PORT does not count, 0", y.aim(0, 0), 0);
         });
+    }
+
+    /** By all values of each field, one after the other. */
+    private static int entriesByTrying(RxQueues x) {
+        Set<Integer> hit = new TreeSet<>(Set.of(0));
+        for (int field = 0; field < 5; field++) {
+            Set<Integer> more = new TreeSet<>();
+            for (int v = 0; v < (field == 4 ? 2 : 256); v++) {
+                int[] f = new int[5];
+                f[field] = v;
+                int entry = x.hash(f[0], f[1], f[2], f[3], f[4]) & 15;
+                for (int e : hit) {
+                    more.add(e ^ entry);
+                }
+            }
+            hit = more;
+        }
+        return hit.size();
     }
 
     private static void spread() {
@@ -797,7 +823,7 @@ public final class QuestionsTest {
         });
         S.test("PACKETS by SEGMENTS (2, 3).", () -> {
             RxQueues x = Made.together(1);
-            Made.packets(x, 0, 4, 1);
+            Made.packets(x, 0, 4, 9);
             x.poll(0);
             due("4 by 1, upper", x.ratio(2), 4);
             due("4 by 1, lower", x.ratio(3), 1);
@@ -872,9 +898,14 @@ public final class QuestionsTest {
             x.table(3, 0);
             due("most then", x.load(0), 8);
             due("least then", x.load(1), 0);
+            for (int q = 0; q < 4; q++) {
+                int[] hits = {3, 3, 3, 3};
+                hits[q] = 5;
+                due("most, QUEUE " + q, Made.withHits(hits).load(0), 5);
+                hits[q] = 2;
+                due("least, QUEUE " + q, Made.withHits(hits).load(1), 2);
+            }
             RxQueues y = Made.withHits(2, 3, 4, 5);
-            due("most, QUEUE 3", y.load(0), 5);
-            due("least, QUEUE 0", y.load(1), 2);
             y.balance();
             due("most behind balance()", y.load(0), 0);
         });
@@ -1061,6 +1092,10 @@ public final class QuestionsTest {
             due("PRESSED joins the second", y.joined(0, 0), 2);
             y.packet(0, 1, false);
             due("a third behind it", y.joined(0, 0), 3);
+            y.poll(0);
+            due("nothing waits, three were given", y.joined(0, 0), 0);
+            y.packet(0, 1, false);
+            due("one more waits", y.joined(0, 0), 1);
         });
         S.test("and were LONGEST 9,999 (1), 1 (2).", () -> {
             RxQueues x = Made.together(1);

@@ -1,3 +1,4 @@
+import java.io.IOException;
 import java.nio.file.Files;
 import java.nio.file.Path;
 import java.util.Set;
@@ -18,10 +19,16 @@ final class Sentences {
     private int tests;
 
     Sentences() {
+        document = readDocument();
+    }
+
+    /** null where the document is not at hand: the answers are looked at all the same, the quotes are not. */
+    private static String readDocument() {
         try {
-            document = Files.readString(Path.of("../shared/DOC.md"));
-        } catch (java.io.IOException e) {
-            throw new IllegalStateException("the document is not there", e);
+            return Files.readString(Path.of("../shared/DOC.md"));
+        } catch (IOException e) {
+            System.out.println("../shared/DOC.md can't be read: quotes are not looked at");
+            return null;
         }
     }
 
@@ -38,13 +45,15 @@ final class Sentences {
     /** The tests that follow are of this promise. */
     void promise(int n) {
         String section = between("## Promise " + n + ":", "\n## ");
-        begin("Promise " + n, section.substring(section.indexOf("`: ") + 3));
+        begin("Promise " + n, section.substring(Math.min(section.length(), section.indexOf("`: ") + 3)));
     }
 
     void test(String quote, Runnable body) {
         sentence = part + ", '" + quote + "': ";
         int at = text.indexOf(quote);
-        check.due(sentence + "stands in the document", at >= 0, true);
+        if (document != null) {
+            check.due(sentence + "stands in the document", at >= 0, true);
+        }
         while (at >= 0) {
             for (int i = at; i < at + quote.length(); i++) {
                 quoted[i] = true;
@@ -82,6 +91,9 @@ final class Sentences {
     }
 
     private String between(String start, String stop) {
+        if (document == null) {
+            return "";
+        }
         int from = document.indexOf(start);
         if (from < 0) {
             throw new IllegalStateException("the document has no '" + start + "'");

@@ -630,6 +630,11 @@ public final class TermsTwoTest {
             z.balance();
             // 1 to 0 (5), 3 to 1 (3), 4 to 2 (3), 2 to 3 (2), 0 to 3 (3), 5 to 1 (4), the rest to 2
             entriesAre(z, 3, 0, 3, 1, 2, 1, 2, 2, 2, 2, 2, 2, 2, 2, 2, 2);
+            // HITS are 0 by then: the next one goes by those that come behind it
+            Made.packets(z, 1, 1, 1);
+            due("the QUEUE that has most", z.load(0), 1);
+            z.balance();
+            entriesAre(z, 1, 0, 1, 1, 1, 1, 1, 1, 1, 1, 1, 1, 1, 1, 1, 1);
         });
         S.test("HITS are 0 then.", () -> {
             RxQueues x = Made.withHits(1, 5, 2, 3, 3, 1);
